@@ -174,8 +174,10 @@ public final class TrieJoins {
 
     /**
      * A question is within another one iff the other's variables can be renamed, the asked ones to themselves, so
-     * that each of its atoms becomes an atom of the first: the first question's own atoms, read as rows, are
-     * contents on which nothing else gives the answer that the first has there.
+     * that each of its atoms becomes an atom of the first. Such a renaming turns every choice of the first into one
+     * of the other with the same answer. And it must be there, as the first one's atoms, read as rows of variables,
+     * are contents too: there the asked variables themselves are an answer of the first, and a choice by which they
+     * are one of the other is such a renaming.
      */
     public int within(int q) {
         if (!isQuestion(q)) {
