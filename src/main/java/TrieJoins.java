@@ -97,12 +97,13 @@ public final class TrieJoins {
         if (!isQuestion(q) || i < 0 || i >= atoms[q]) {
             return BAD;
         }
-        atoms[q]--;
-        for (int k = i; k < atoms[q]; k++) {
+        int left = atoms[q] - 1;
+        for (int k = i; k < left; k++) {
             int place = q * MOST_ATOMS + k;
             putAtom(place, atomRelation[place + 1], atomVariables[place + 1]);
         }
-        return atoms[q];
+        atoms[q] = left;
+        return left;
     }
 
     public boolean ask(int q, int set) {
@@ -405,7 +406,8 @@ public final class TrieJoins {
      */
     private int firstFault(int q) {
         int first = VARIABLES;
-        for (int i = 0; i < atoms[q]; i++) {
+        int number = atoms[q];
+        for (int i = 0; i < number; i++) {
             int fault = faultOf(q * MOST_ATOMS + i);
             if (fault < first) {
                 first = fault;
@@ -463,7 +465,8 @@ public final class TrieJoins {
     }
 
     private void markMatches(int q) {
-        for (int i = 0; i < atoms[q]; i++) {
+        int number = atoms[q];
+        for (int i = 0; i < number; i++) {
             int place = q * MOST_ATOMS + i;
             int row = givenRow(place);
             isMatched[leaf(atomRelation[place], row)] = true;
@@ -482,7 +485,8 @@ public final class TrieJoins {
             }
         }
         int reached = 0;
-        for (int i = 0; i < atoms[from]; i++) {
+        int number = atoms[from];
+        for (int i = 0; i < number; i++) {
             int place = from * MOST_ATOMS + i;
             int variables = givenRow(place);
             int found = findAtom(to, atomRelation[place], variables);
@@ -496,7 +500,8 @@ public final class TrieJoins {
 
     /** The first atom like this, so that atoms that are the same count once; -1 if there is none. */
     private int findAtom(int q, int r, int variables) {
-        for (int i = 0; i < atoms[q]; i++) {
+        int number = atoms[q];
+        for (int i = 0; i < number; i++) {
             int place = q * MOST_ATOMS + i;
             if (atomRelation[place] == r && atomVariables[place] == variables) {
                 return i;
